@@ -125,7 +125,6 @@ public final class ChoraleSearch {
         if (beam < 0 || beam > WIDEST_BEAM) {
             return BAD;
         }
-        search.forget();
         table.prepare();
         if (table.overflows()) {
             return TOO_MANY;
@@ -536,6 +535,14 @@ public final class ChoraleSearch {
             return LOWEST + ((code >> (CHORD_BITS + PITCH_BITS * (BASS - voice))) & PITCH_MASK);
         }
 
+        private static void unpack(int code, int[] pitches) {
+            int voices = code >> CHORD_BITS;
+            for (int voice = BASS; voice >= 0; voice--) {
+                pitches[voice] = LOWEST + (voices & PITCH_MASK);
+                voices >>= PITCH_BITS;
+            }
+        }
+
         private static int timesClass(int code, int pitchClass) {
             int times = 0;
             for (int voices = code >> CHORD_BITS, left = VOICES; left > 0; left--) {
@@ -777,41 +784,54 @@ public final class ChoraleSearch {
 
     /** Rules 7 to 12: which state may follow which. */
     private static final class StepRules {
+        // Bit m is set where a voice may move by m: not 6, 10, 11, nor above 12.
+        private static final int GOOD_MOVES = 0b1001110111111, WIDEST_MOVE = 12;
+
         private final Harmony harmony;
+        // The step that is looked at, unpacked once, since every rule asks for its pitches.
+        private int fromChord;
+        private int toChord;
+        private final int[] before = new int[VOICES];
+        private final int[] after = new int[VOICES];
 
         private StepRules(Harmony harmony) {
             this.harmony = harmony;
         }
 
         private boolean allow(int from, int to) {
-            return !breaks7(from, to) && !breaks9(from, to) && !breaks10(from, to)
-                && !breaks8(from, to) && !breaks11(from, to) && !breaks12(from, to);
+            lookAt(from, to);
+            return !breaks7() && !breaks10() && !breaks9() && !breaks8() && !breaks11() && !breaks12();
         }
 
         /** All rules that bar this step, as bits. */
         private int barring(int from, int to) {
-            return (breaks7(from, to) ? 1 << 7 : 0)
-                | (breaks8(from, to) ? 1 << 8 : 0)
-                | (breaks9(from, to) ? 1 << 9 : 0)
-                | (breaks10(from, to) ? 1 << 10 : 0)
-                | (breaks11(from, to) ? 1 << 11 : 0)
-                | (breaks12(from, to) ? 1 << 12 : 0);
+            lookAt(from, to);
+            return (breaks7() ? 1 << 7 : 0)
+                | (breaks8() ? 1 << 8 : 0)
+                | (breaks9() ? 1 << 9 : 0)
+                | (breaks10() ? 1 << 10 : 0)
+                | (breaks11() ? 1 << 11 : 0)
+                | (breaks12() ? 1 << 12 : 0);
         }
 
-        private boolean breaks7(int from, int to) {
-            return harmony.unitsBetween(Code.chordOf(from), Code.chordOf(to)) == Harmony.BARRED;
+        private void lookAt(int from, int to) {
+            fromChord = Code.chordOf(from);
+            toChord = Code.chordOf(to);
+            Code.unpack(from, before);
+            Code.unpack(to, after);
         }
 
-        private static boolean breaks8(int from, int to) {
+        private boolean breaks7() {
+            return harmony.unitsBetween(fromChord, toChord) == Harmony.BARRED;
+        }
+
+        private boolean breaks8() {
             for (int upper = 0; upper < BASS; upper++) {
-                int before = Code.pitchOf(from, upper);
-                int after = Code.pitchOf(to, upper);
-                for (int lower = upper + 1; lower < VOICES && before != after; lower++) {
-                    int lowerBefore = Code.pitchOf(from, lower);
-                    int lowerAfter = Code.pitchOf(to, lower);
-                    int apart = (before - lowerBefore) % OCTAVE;
-                    if (lowerBefore != lowerAfter && (apart == 0 || apart == 7)
-                        && apart == (after - lowerAfter) % OCTAVE) {
+                for (int lower = upper + 1; lower < VOICES; lower++) {
+                    int apart = (before[upper] - before[lower]) % OCTAVE;
+                    if ((apart == 0 || apart == 7)
+                        && apart == (after[upper] - after[lower]) % OCTAVE
+                        && before[upper] != after[upper] && before[lower] != after[lower]) {
                         return true;
                     }
                 }
@@ -819,50 +839,44 @@ public final class ChoraleSearch {
             return false;
         }
 
-        private static boolean breaks9(int from, int to) {
+        private boolean breaks9() {
             for (int voice = 0; voice < VOICES; voice++) {
-                int move = Math.abs(Code.pitchOf(to, voice) - Code.pitchOf(from, voice));
-                if (move == 6 || move == 10 || move == 11 || move > OCTAVE) {
+                int move = Math.abs(after[voice] - before[voice]);
+                if (move > WIDEST_MOVE || ((GOOD_MOVES >> move) & 1) == 0) {
                     return true;
                 }
             }
             return false;
         }
 
-        private static boolean breaks10(int from, int to) {
+        private boolean breaks10() {
             for (int voice = 0; voice < BASS; voice++) {
-                if (Code.pitchOf(to, voice + 1) > Code.pitchOf(from, voice)
-                    || Code.pitchOf(to, voice) < Code.pitchOf(from, voice + 1)) {
+                if (after[voice + 1] > before[voice] || after[voice] < before[voice + 1]) {
                     return true;
                 }
             }
             return false;
         }
 
-        private boolean breaks11(int from, int to) {
-            int chord = Code.chordOf(from);
-            int next = Code.chordOf(to);
-            if ((chord != 4 && chord != 6 && chord != 7) || (next != 0 && next != 5)) {
+        private boolean breaks11() {
+            if ((fromChord != 4 && fromChord != 6 && fromChord != 7) || (toChord != 0 && toChord != 5)) {
                 return false;
             }
-            return leadsAstray(Code.pitchOf(from, SOPRANO), Code.pitchOf(to, SOPRANO))
-                || leadsAstray(Code.pitchOf(from, BASS), Code.pitchOf(to, BASS));
+            return leadsAstray(SOPRANO) || leadsAstray(BASS);
         }
 
-        private boolean leadsAstray(int before, int after) {
-            return before % OCTAVE == harmony.leadingClass && after != before + 1;
+        private boolean leadsAstray(int voice) {
+            return before[voice] % OCTAVE == harmony.leadingClass && after[voice] != before[voice] + 1;
         }
 
-        private boolean breaks12(int from, int to) {
-            int chord = Code.chordOf(from);
-            int seventh = harmony.memberClass(chord, SEVENTH);
-            if (seventh == NONE || chord == Code.chordOf(to)) {
+        private boolean breaks12() {
+            int seventh = harmony.memberClass(fromChord, SEVENTH);
+            if (seventh == NONE || fromChord == toChord) {
                 return false;
             }
             for (int voice = 0; voice < VOICES; voice++) {
-                int before = Code.pitchOf(from, voice);
-                int down = before - Code.pitchOf(to, voice);
-                if (before % OCTAVE == seventh && (down < 0 || down > 2)) {
+                int down = before[voice] - after[voice];
+                if (before[voice] % OCTAVE == seventh && (down < 0 || down > 2)) {
                     return true;
                 }
             }
