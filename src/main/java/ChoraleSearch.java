@@ -582,7 +582,6 @@ public final class ChoraleSearch {
     /** Rules 1 to 6: which states may stand at a place. */
     private static final class StateRules {
         private static final int TONIC_CHORD = 1, FERMATA_CHORDS = 1 | 1 << 4 | 1 << 5, ANY_CHORD = -1;
-        private static final int ALL_BARRING = 1 << 3 | 1 << 4 | 1 << 5 | 1 << 6;
         private static final int[] WIDEST_BELOW = {12, 12, 19};
 
         private final Score score;
@@ -684,7 +683,7 @@ public final class ChoraleSearch {
         private int barring(int place) {
             int chords = score.figuredChords(place);
             int rules = 0;
-            for (int chord = 0; chord < CHORDS && rules != ALL_BARRING; chord++) {
+            for (int chord = 0; chord < CHORDS; chord++) {
                 if (((chords >> chord) & 1) == 1 && surveyVoices(place, chord)) {
                     rules |= someBreak3() ? 1 << 3 : 0;
                     rules |= someBreak4(chord) ? 1 << 4 : 0;

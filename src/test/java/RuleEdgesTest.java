@@ -5,6 +5,7 @@ public final class RuleEdgesTest {
 
     public static void main(String[] args) {
         chordsOfTheStyle();
+        notesOfTheChord();
         rule1();
         rule2Notes();
         rule2Chord();
@@ -43,6 +44,7 @@ public final class RuleEdgesTest {
         cost4();
         cost5();
         cost5NotAlike();
+        cost5InOtherKeys();
         cost6();
         cost7();
         cost8();
@@ -84,6 +86,24 @@ public final class RuleEdgesTest {
         Setting.styleOnly(x, 1, 8);
         Setting.giveAll(x, 0, v(69, 65, 62, 50));
         Due.is("states(0): II, but no II SEVENTH without its seventh", x.states(0), 1);
+    }
+
+    private static void notesOfTheChord() {
+        Due.sentence("2: a PITCH of each VOICE, whose CLASSES are in it: each CLASS, each CHORD");
+        for (int chord = 0; chord < 13; chord++) {
+            ChoraleSearch x = Setting.fresh(2);
+            x.style(chord, true);
+            x.figure(0, chord);
+            for (int soprano = 65; soprano < 77; soprano++) {
+                boolean in = false;
+                for (int k = 0; k < 4; k++) {
+                    in |= x.member(chord, k) == soprano % 12;
+                }
+                x.given(0, 0, soprano);
+                Due.is("chord " + chord + ", soprano " + soprano, x.states(0) > 0 ? 1 : 0, in ? 1 : 0);
+                Due.is("blocked(2): no state at all", x.blocked(2) == 0 ? 1 : 0, in ? 0 : 1);
+            }
+        }
     }
 
     private static int standsAsTonic(ChoraleSearch x, int voice, int pitch) {
@@ -547,9 +567,14 @@ public final class RuleEdgesTest {
 
     /** How often a kind counts in a row of two whole places, the second one I. */
     private static void counts(String what, int kind, int chord, int[] first, int[] last, int times) {
+        countsIn(0, MAJOR, what, kind, new int[][] {{chord}, first, last}, times);
+    }
+
+    private static void countsIn(int tonic, int minor, String what, int kind, int[][] row, int times) {
         ChoraleSearch x = Setting.fresh(2);
-        Setting.put(x, 0, chord, first);
-        Setting.put(x, 1, 0, last);
+        x.key(tonic, minor);
+        Setting.put(x, 0, row[0][0], row[1]);
+        Setting.put(x, 1, 0, row[2]);
         Setting.costOnly(x, kind);
         Due.is(what + ": rows", x.solve(0), 1);
         Due.is(what + ": times", x.sum(0), times);
@@ -628,6 +653,7 @@ public final class RuleEdgesTest {
         counts("by 3 up into 24 apart", 5, 1, v(69, 57, 50, 41), v(72, 64, 52, 48), 1);
         counts("by 4 down into 24 apart", 5, 0, v(76, 64, 60, 55), v(72, 64, 55, 48), 1);
         counts("by 2 down into 24 apart", 5, 1, v(74, 62, 53, 53), v(72, 64, 55, 48), 0);
+        counts("by 5 up, the bass by 1", 5, 4, v(62, 55, 50, 47), v(67, 55, 52, 48), 1);
         counts("by 3 up into 7 apart", 5, 0, v(64, 60, 60, 48), v(67, 64, 60, 60), 1);
         counts("by 2 up into 7 apart", 5, 1, v(65, 62, 62, 53), v(67, 64, 60, 60), 0);
         counts("by 3 up into 19 apart", 5, 0, v(64, 55, 48, 40), v(67, 55, 52, 48), 1);
@@ -642,9 +668,20 @@ public final class RuleEdgesTest {
         Due.sentence("COST 5: move alike (both up, or both down)");
         counts("up and down into 12 apart", 5, 1, v(65, 65, 62, 62), v(72, 64, 64, 60), 0);
         counts("down and up into 12 apart", 5, 0, v(64, 55, 48, 43), v(60, 55, 52, 48), 0);
-        counts("the bass stays", 5, 0, v(60, 55, 52, 48), v(72, 60, 52, 48), 0);
+        counts("the soprano up, the bass stays", 5, 0, v(60, 55, 52, 48), v(72, 60, 52, 48), 0);
+        counts("the soprano down, the bass stays", 5, 0, v(72, 60, 52, 48), v(67, 60, 52, 48), 0);
         counts("the soprano stays", 5, 0, v(72, 60, 48, 40), v(72, 60, 52, 48), 0);
         counts("up and down into 19 apart", 5, 0, v(60, 55, 52, 52), v(67, 55, 52, 48), 0);
+    }
+
+    private static void cost5InOtherKeys() {
+        Due.sentence("COST 5: into 0 or 7 apart (whatever the TONIC)");
+        countsIn(2, MAJOR, "into 24 apart in D major", 5,
+            new int[][] {{1}, v(71, 59, 52, 43), v(74, 66, 54, 50)}, 1);
+        countsIn(2, MAJOR, "into 16 apart in D major", 5,
+            new int[][] {{0}, v(62, 57, 50, 42), v(66, 57, 50, 50)}, 0);
+        countsIn(0, MINOR, "by 3 down into 24 apart in C minor", 5,
+            new int[][] {{0}, v(75, 63, 60, 55), v(72, 63, 55, 48)}, 1);
     }
 
     private static void cost6() {

@@ -5,6 +5,7 @@ public final class SearchEdgesTest {
     public static void main(String[] args) {
         orderBySum();
         orderByPlaces();
+        orderAtTheLastPlace();
         orderByVoices();
         orderByChord();
         fourHundredStates();
@@ -20,6 +21,7 @@ public final class SearchEdgesTest {
         solveNone();
         solveAgain();
         solveSmallestAndLargest();
+        solvedRowsStandAlone();
         solveRefused();
         noteEnds();
         chordEnds();
@@ -100,6 +102,20 @@ public final class SearchEdgesTest {
         Setting.costOnly(x, -1);
         rowsAre(x, 0, "0 0:72,67,64,48 0:72,67,64,48", "0 0:72,67,64,48 0:72,67,64,60",
             "0 0:72,67,64,60 0:72,67,64,48", "0 0:72,67,64,60 0:72,67,64,60");
+    }
+
+    private static void orderAtTheLastPlace() {
+        Due.sentence("3: ORDER of rows: place by place, where the last of 16 alone is another");
+        ChoraleSearch x = Setting.fresh(16);
+        StringBuilder same = new StringBuilder("0");
+        for (int i = 0; i < 16; i++) {
+            Setting.put(x, i, 0, v(72, 67, 64, 48));
+            same.append(i < 15 ? " 0:72,67,64,48" : " 0:");
+        }
+        x.free(0, 15);
+        Setting.costOnly(x, -1);
+        rowsAre(x, 0, same + "67,67,64,48", same + "72,67,64,48", same + "76,67,64,48", same + "79,67,64,48");
+        rowsAre(x, 2, same + "67,67,64,48", same + "72,67,64,48");
     }
 
     private static void orderByVoices() {
@@ -216,10 +232,26 @@ public final class SearchEdgesTest {
         rowsAre(x, 1, "0 0:64,60,55,48");
         rowsAre(x, 2, "0 0:64,60,55,48", "4 0:64,60,48,48");
         rowsAre(x, 3, "0 0:64,60,55,48", "4 0:64,60,48,48", "4 0:64,60,52,48");
+        // In the order of pitches the sums are 4, 0, 2, ..
+        rowsAre(tonic(72, 64, 0, 0), 2, "0 0:72,64,55,48", "2 0:72,64,60,48");
+        for (int beam = 1; beam <= 60; beam++) {
+            beamOfOnePlace(beam);
+        }
         // At the last place the bass 48 comes first, so that alone is kept, whatever follows from it.
         rowsAre(twoBasses(), 1, "5 0:72,67,64,60 0:72,67,64,48");
         rowsAre(twoBasses(), 2, "5 0:72,67,64,48 0:72,67,64,60", "5 0:72,67,64,60 0:72,67,64,48",
             "8 0:72,67,64,48 0:72,67,64,48", "8 0:72,67,64,60 0:72,67,64,60");
+    }
+
+    /** At one place the rows that are kept are the first ones of all. */
+    private static void beamOfOnePlace(int beam) {
+        ChoraleSearch all = tonic(0, 0, 0, 0);
+        all.solve(0);
+        ChoraleSearch kept = tonic(0, 0, 0, 0);
+        Due.is("solve(" + beam + ")", kept.solve(beam), Math.min(beam, 4));
+        for (int k = 0; k < kept.count(4); k++) {
+            Due.same("row " + k + " of solve(" + beam + ")", Setting.row(kept, k), Setting.row(all, k));
+        }
     }
 
     private static void beamOfEqualSums() {
@@ -357,6 +389,56 @@ public final class SearchEdgesTest {
         Due.is("sums rise", x.sum(0) <= x.sum(1) && x.sum(1) <= x.sum(2) && x.sum(2) <= x.sum(3) ? 1 : 0, 1);
         Due.is("note(0, 0, 15)", x.note(0, 0, 15), 60);
         Due.is("chord(0, 15)", x.chord(0, 15), 0);
+    }
+
+    /** Each row, given whole to an object of its own, is the one row there and has the same sum. */
+    private static void standAlone(ChoraleSearch x, int minor) {
+        String before = "";
+        for (int k = 0; k < x.count(4); k++) {
+            String row = Setting.row(x, k);
+            ChoraleSearch alone = whole(row, minor);
+            Due.is("solve(0) of row " + k, alone.solve(0), 1);
+            Due.same("row " + k, Setting.row(alone, 0), row);
+            Due.is("row " + k + " is the one before it", row.equals(before) ? 1 : 0, 0);
+            before = row;
+        }
+    }
+
+    /** A chorale with every chord and note of a row that Setting.row() has written. */
+    private static ChoraleSearch whole(String row, int minor) {
+        String[] parts = row.split("[ :]");
+        int n = parts.length / 2;
+        ChoraleSearch x = Setting.fresh(n);
+        x.key(0, minor);
+        for (int i = 0; i < n; i++) {
+            String[] notes = parts[2 * i + 2].split(",");
+            Setting.put(x, i, Integer.parseInt(parts[2 * i + 1]), v(Integer.parseInt(notes[0]),
+                Integer.parseInt(notes[1]), Integer.parseInt(notes[2]), Integer.parseInt(notes[3])));
+        }
+        return x;
+    }
+
+    private static void solvedRowsStandAlone() {
+        Due.sentence("3: A ROW has one STATE of each place, each next one by a STEP; its SUM is that of all COSTS");
+        int[] melody = {67, 69, 71, 72, 69, 67, 65, 64, 62, 60};
+        for (int n = 2; n <= melody.length; n += 2) {
+            for (int beam = 0; beam <= 20; beam += 10) {
+                ChoraleSearch x = Setting.fresh(n);
+                for (int i = 0; i < n; i++) {
+                    x.given(0, i, melody[melody.length - n + i]);
+                }
+                Due.is("solve(" + beam + ") of " + n, x.solve(beam), 4);
+                standAlone(x, 0);
+            }
+        }
+        ChoraleSearch x = Setting.fresh(4);
+        x.key(0, 1);
+        x.style(11, true);
+        x.given(0, 0, 70);
+        x.figure(1, 5);
+        x.figure(2, 4);
+        Due.is("solve(0) in minor", x.solve(0), 4);
+        standAlone(x, 1);
     }
 
     private static void solveRefused() {
@@ -608,6 +690,16 @@ public final class SearchEdgesTest {
         x.range(0, 60, 81);
         x.inversion(0, 1);
         Due.is("another inversion: none keeps 1 and 2", x.blocked(2), 0);
+        x = Setting.fresh(2);
+        x.figure(0, 4);
+        x.given(3, 0, 43);
+        x.inversion(0, 1);
+        Due.is("the bass against the inversion: none keeps 1 and 2", x.blocked(2), 0);
+        x.given(3, 0, 47);
+        x.given(0, 0, 71);
+        Due.is("DEGREE 11 in soprano and bass: 3, 4 and 5", x.blocked(2), 1 << 3 | 1 << 4 | 1 << 5);
+        x = tonic(64, 67, 60, 48);
+        Due.is("3 alone at the last place", x.blocked(2), 1 << 3);
         x = tonic(0, 0, 0, 52);
         Due.is("3 to 6 at the last place", x.blocked(2), 1 << 3 | 1 << 4 | 1 << 5 | 1 << 6);
         Due.is("its place", x.blocked(0), 0);
@@ -733,6 +825,13 @@ public final class SearchEdgesTest {
         Due.is("one of them", x.repair(), 7);
         x.figure(1, 5);
         Due.is("no note, but the CHORD is wrong", x.repair(), NONE);
+        x = Setting.fresh(16);
+        for (int i = 0; i < 16; i++) {
+            Setting.put(x, i, 0, v(72, 67, 64, 48));
+        }
+        x.given(2, 15, 61);
+        x.given(3, 15, 49);
+        Due.is("none of 64 notes", x.repair(), NONE);
     }
 
     private static void repairTooMany() {
@@ -745,6 +844,9 @@ public final class SearchEdgesTest {
         x = with400();
         x.given(0, 0, 61);
         Due.is("400 without it", x.repair(), 0);
+        x = with400();
+        x.given(0, 1, 61);
+        Due.is("400 with it, at another place", x.repair(), 4);
         x = Setting.fresh(3);
         x.given(0, 0, 61);
         Due.is("with it, at another place", x.repair(), TOO_MANY);

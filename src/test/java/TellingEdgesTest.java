@@ -14,6 +14,7 @@ public final class TellingEdgesTest {
         placesEnd();
         keyEnds();
         keyChanges();
+        keyChangesChords();
         placesNumber();
         placesShrink();
         placesGrow();
@@ -97,10 +98,12 @@ public final class TellingEdgesTest {
         Due.is("states(0) with the lowest pitch", x.states(0), 1);
         x.solve(0);
         Due.is("note of the lowest pitch", x.note(0, 3, 0), 36);
+        Due.is("sum of a row that nothing makes dear", x.sum(0), 0);
         Setting.giveAll(x, 0, Setting.v(84, 76, 67, 48));
         Due.is("states(0) with the highest pitch", x.states(0), 1);
         x.solve(0);
         Due.is("note of the highest pitch", x.note(0, 0, 0), 84);
+        Due.is("sum of a row that nothing makes dear", x.sum(0), 0);
     }
 
     private static void classesWrap() {
@@ -194,6 +197,29 @@ public final class TellingEdgesTest {
         Due.is("figure(1, -1)", x.figure(1, -1), 3);
         Due.is("style(9, false)", x.style(9, false), 1);
         Due.is("cost(4, 1)", x.cost(4, 1), 7);
+    }
+
+    private static void keyChangesChords() {
+        Due.sentence("Promise 2: THE KEY (nothing of the one before it is left)");
+        ChoraleSearch always = Setting.fresh(2);
+        always.key(2, 1);
+        ChoraleSearch changed = Setting.fresh(2);
+        changed.key(0, 0);
+        changed.key(2, 0);
+        changed.key(2, 1);
+        for (int chord = 0; chord < 13; chord++) {
+            always.style(chord, true);
+            changed.style(chord, true);
+            for (int k = 0; k < 4; k++) {
+                Due.is("member(" + chord + ", " + k + ")", changed.member(chord, k), always.member(chord, k));
+                always.figure(0, chord);
+                changed.figure(0, chord);
+                always.inversion(0, k);
+                changed.inversion(0, k);
+                Due.is("states(0), chord " + chord + ", inversion " + k, changed.states(0), always.states(0));
+            }
+        }
+        Due.is("states(1)", changed.states(1), always.states(1));
     }
 
     private static void placesNumber() {
