@@ -744,6 +744,10 @@ public final class SearchEdgesTest {
         Due.is("blocked(2)", x.blocked(2), 1 << 9);
         x.given(3, 0, 60);
         Due.is("blocked(2): 62 is reached, 50 is not", x.blocked(2), 1 << 10);
+        x.given(3, 0, 48);
+        x.given(3, 1, 50);
+        Due.is("states(1): 62 is there no more", x.states(1), 1);
+        Due.is("blocked(2)", x.blocked(2), 1 << 9);
     }
 
     private static void blockedTooMany() {
